@@ -981,16 +981,32 @@ public final class QueryHandles {
     }
 
     private static final class Thing {
+        /** null: it is a ROW. */
+        final Type cls;
         /** ERASED: a CLASS and 0, or of a ROW one DEPTH more than its component. */
         final int base;
         final int depth;
         /** The items of a ROW; else the PLACES, those of its own CLASS first. */
         final long[] items;
 
-        Thing(int base, int depth, int n) {
+        Thing(Type cls, int base, int depth, int n) {
+            this.cls = cls;
             this.base = base;
             this.depth = depth;
             items = new long[Math.max(n, 0)];
+        }
+
+        /** Where the PLACE of a FIELD stands; NONE, if it has none. */
+        int placeOf(Member field) {
+            int start = 0;
+            for (Type c = cls; c != null; c = c.from) {
+                if (c == field.owner) {
+                    int place = start + field.placeNumber;
+                    return place < items.length ? place : NONE;
+                }
+                start += c.placeCount;
+            }
+            return NONE;
         }
     }
 
@@ -1032,7 +1048,7 @@ public final class QueryHandles {
             for (Type c = own; c != null; c = c.from) {
                 places += c.placeCount;
             }
-            Thing t = new Thing(cls, 0, places);
+            Thing t = new Thing(own, cls, 0, places);
             int placed = 0;
             for (Type c = own; c != null; c = c.from) {
                 placeFields(t, c, placed);
@@ -1063,7 +1079,7 @@ public final class QueryHandles {
             if (n < 0) {
                 return SIZE;
             }
-            Thing t = new Thing(of.base, of.depth + 1, n);
+            Thing t = new Thing(null, of.base, of.depth + 1, n);
             if (!holdsValue(of.base, of.depth)) {
                 for (int i = 0; i < t.items.length; i++) {
                     t.items[i] = NONE;
@@ -1079,19 +1095,6 @@ public final class QueryHandles {
             }
             Thing t = v < 0 || v >= count ? null : at((int) v);
             return t != null && types.isUnder(t.base, t.depth, base, depth);
-        }
-
-        /** Where the PLACE of a FIELD stands in a THING; NONE, if it has none. */
-        int placeOf(Thing t, Member field) {
-            int start = 0;
-            for (Type c = types.at(t.base); c != null; c = c.from) {
-                if (c == field.owner) {
-                    int place = start + field.placeNumber;
-                    return place < t.items.length ? place : NONE;
-                }
-                start += c.placeCount;
-            }
-            return NONE;
         }
 
         long mixedInto(long h) {
@@ -1187,7 +1190,7 @@ public final class QueryHandles {
                 bitsRead = field.place;
                 return 0;
             }
-            int place = t == null ? NONE : things.placeOf(t, field);
+            int place = t == null ? NONE : t.placeOf(field);
             if (place == NONE) {
                 return LACKING;
             }
@@ -1197,8 +1200,7 @@ public final class QueryHandles {
 
         /** A BODY begins at most one other, so what is open is a count and no recursion. */
         private int readBody(int name, Thing t) {
-            Type own = types.classAt(t.base);
-            Type from = own;
+            Type from = t.cls;
             int asked = name;
             int ones = 0;
             for (int open = 0; open <= MOST_BODIES && from != null; open++) {
@@ -1222,7 +1224,7 @@ public final class QueryHandles {
                     from = m.owner.from;
                     asked = m.name;
                 } else {
-                    from = own;
+                    from = t.cls;
                     asked = m.a;
                     ones += m.body == ASKS_AND_ONE ? 1 : 0;
                 }
@@ -1277,7 +1279,7 @@ public final class QueryHandles {
                 field.place = put;
                 return 1;
             }
-            int place = t == null ? NONE : things.placeOf(t, field);
+            int place = t == null ? NONE : t.placeOf(field);
             if (place == NONE) {
                 return LACKING;
             }
