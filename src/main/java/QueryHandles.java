@@ -480,6 +480,19 @@ public final class QueryHandles {
         return mix;
     }
 
+    /** The number of the highest bit that is set, -1 of 0. */
+    private static int topBit(long size) {
+        int top = size == 0 ? -1 : 0;
+        long rest = size;
+        for (int half = 32; half > 0; half /= 2) {
+            if (rest >>> half != 0) {
+                rest >>>= half;
+                top += half;
+            }
+        }
+        return top;
+    }
+
     private static int whyNoItem(Thing t, int i) {
         if (t == null) {
             return NULL;
@@ -578,6 +591,11 @@ public final class QueryHandles {
 
         int size() {
             return Long.bitCount(low) + Long.bitCount(high);
+        }
+
+        /** -1, if it is empty. */
+        int last() {
+            return high != 0 ? 64 + topBit(high) : topBit(low);
         }
     }
 
@@ -913,7 +931,7 @@ public final class QueryHandles {
             candidates.becomeBoth(cls.uppers, lenders[name]);
             // What a lender overrules is gone for good: the FACES OF a FACE hold those of each of
             // them, so it matters not in which order the lenders are come by.
-            for (int f = FIRST_MADE; f < count; f++) {
+            for (int f = FIRST_MADE; f < count && candidates.size() > 1; f++) {
                 if (candidates.has(f)) {
                     candidates.removeAll(all[f].uppers);
                 }
@@ -921,13 +939,9 @@ public final class QueryHandles {
             if (candidates.size() > 1) {
                 return TWO;
             }
-            for (int f = FIRST_MADE; f < count; f++) {
-                Member m = candidates.has(f) ? all[f].methodNamed(name) : null;
-                if (m != null) {
-                    return m.code();
-                }
-            }
-            return LACKING;
+            Type lender = at(candidates.last());
+            Member m = lender == null ? null : lender.methodNamed(name);
+            return m == null ? LACKING : m.code();
         }
 
         /** The FIELD that is SEEN from a CLASS, or null. */
@@ -1420,19 +1434,6 @@ public final class QueryHandles {
             }
             // The highest bit of what is kept counts one exponent; a carry counts one more.
             return ((long) (top + bias - 1) << fraction) + kept;
-        }
-
-        /** The number of the highest bit that is set, -1 of 0. */
-        private static int topBit(long size) {
-            int top = size == 0 ? -1 : 0;
-            long rest = size;
-            for (int half = 32; half > 0; half /= 2) {
-                if (rest >>> half != 0) {
-                    rest >>>= half;
-                    top += half;
-                }
-            }
-            return top;
         }
 
         private static long floatAsDouble(long bits) {
