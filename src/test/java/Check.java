@@ -2,14 +2,24 @@
 final class Check {
     private static int wrong = 0;
     private static int asked = 0;
+    private static String about = "";
 
     private Check() { }
+
+    /** What the answers that follow are about: it stands ahead of each that is not as due. */
+    static void about(String what) {
+        about = what;
+    }
+
+    static int asked() {
+        return asked;
+    }
 
     static void due(String call, long got, long want) {
         asked++;
         if (got != want) {
             wrong++;
-            System.out.println(call + " answered " + got + ", due is " + want);
+            System.out.println(about + call + " answered " + got + ", due is " + want);
         }
     }
 
