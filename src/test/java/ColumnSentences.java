@@ -75,7 +75,8 @@ final class ColumnSentences extends Sentences {
     }
 
     private static void fill() {
-        holds(27, "For each THING that IS the HANDLE's CLASS, in order: it is READ, WIDENED to the LANE, into the cells from 0 on: how many", x -> {
+        holds(27, "For each THING that IS the HANDLE's CLASS, in order: it is READ, WIDENED to the LANE,"
+            + " into the cells from 0 on: how many", x -> {
             int a = withField(x, BYTE);
             int b = below(x, a);
             int c = below(x, b);
@@ -224,6 +225,7 @@ final class ColumnSentences extends Sentences {
             x.method(a, 2, ASKS, 2);
             x.thing(a);
             x.column(0, TRUTH, 0);
+            HandleSentences.readNone(x);
             refused(x, "READING ahead of INDEX", x.fill(0, ofMethods(x, a, 2)), DEEP);
             refused(x, "a thing ahead of INDEX", x.fill(0, ofField(x, a, 0)), KIND);
             refused(x, "INDEX ahead of what does not widen", x.fill(0, ofField(x, a, 1)), INDEX);
@@ -338,13 +340,31 @@ final class ColumnSentences extends Sentences {
     private static void sumOfDoubles() {
         holds(30, "6, 7: BITS of a double", x -> {
             sums(x, "floats", FLOAT, bits(1.5), bits(1f), bits(0.5f));
-            sums(x, "floats as doubles", FLOAT, bits(2.0 * Float.MAX_VALUE), bits(Float.MAX_VALUE), bits(Float.MAX_VALUE));
+            long most = bits(Float.MAX_VALUE);
+            sums(x, "floats as doubles", FLOAT, bits(2.0 * Float.MAX_VALUE), most, most);
             sums(x, "floats, not rounded to floats", FLOAT, bits(16777217.0), bits(16777216f), bits(1f));
             sums(x, "least floats", FLOAT, bits(2.0 * Float.MIN_VALUE), 1, 1);
             sums(x, "doubles", DOUBLE, bits(0.1 + 0.2), bits(0.1), bits(0.2));
             sums(x, "least doubles", DOUBLE, 2, 1, 1);
             sums(x, "a sum that is endless", DOUBLE, ENDLESS_DOUBLE, bits(1e308), bits(1e308), bits(-1e308));
             sums(x, "below 0", DOUBLE, bits(Double.NEGATIVE_INFINITY), bits(-1e308), bits(-1e308), bits(1e308));
+        });
+        holds(30, "6, 7: BITS of a double", x -> {
+            double[][] parts = {{Double.MIN_NORMAL, -Double.MIN_VALUE}, {-Double.MIN_NORMAL, Double.MIN_NORMAL},
+                {Double.MIN_NORMAL, Double.MIN_NORMAL}, {1, 0x1p-53}, {1, 0x1p-53, 0x1p-53}, {1 + 0x1p-52, 0x1p-53},
+                {1, 0x1.0000000000001p-53}, {1, -0x1p-54}, {1, -0x1.0000000000001p-54}, {1, 0x1p-200}, {1, -0x1p-200},
+                {0x1p60, 0x1p-1, 0x1p7, 0x1p7}, {1e16, 1, -1e16}, {-3.5, 1.25}, {Double.MAX_VALUE, 0x1p969},
+                {Double.MAX_VALUE, 0x1p970}, {0x1.fffffffffffffp0, 0x1p-53}, {1, -0x1.fffffffffffffp-1},
+                {0x1.fffffffffffffp0, 0x1.0000000000001p-51}, {-0x1.fffffffffffffp0, -0x1.0000000000001p-51}};
+            for (double[] p : parts) {
+                double due = 0.0;
+                long[] values = new long[p.length];
+                for (int i = 0; i < p.length; i++) {
+                    due += p[i];
+                    values[i] = bits(p[i]);
+                }
+                sums(x, "as the machine adds " + java.util.Arrays.toString(p), DOUBLE, bits(due), values);
+            }
         });
         holds(30, "from 0.0 on in order", x -> {
             x.column(1, DOUBLE, 0);

@@ -16,6 +16,13 @@ final class HandleSentences extends Sentences {
         setRefused();
     }
 
+    /** What is told by a READING that finds something is not what the one ahead of it told. */
+    static void readNone(QueryHandles x) {
+        int c = below(x, ANY);
+        x.field(c, 0, ANY, true);
+        due("NONE is read", x.get(ofField(x, c, 0), NONE), NONE);
+    }
+
     private static void handle() {
         holds(21, "A HANDLE of a CLASS and the FIELD that is SEEN from it (as it is now)", x -> {
             int a = withField(x, INT);
@@ -265,6 +272,20 @@ final class HandleSentences extends Sentences {
             due("a shared one", x.get(ofMethods(x, b, 1), t), 7);
             due("its lane", x.lane(), SHORT);
         });
+        holds(22, "1 tells the FIELD that is MEMBER a of its own CLASS", x -> {
+            for (int type = TRUTH; type <= ANY; type++) {
+                int c = withField(x, type);
+                x.method(c, 0, TELLS_FIELD, 0);
+                x.method(c, 1, ASKS, 0);
+                int t = x.thing(c);
+                x.set(ofField(x, c, 0), t, 0);
+                for (int name = 0; name < 2; name++) {
+                    due("type " + type, x.get(ofMethods(x, c, name), t), 0);
+                    due("status()", x.status(), 0);
+                    due("its lane", x.lane(), type);
+                }
+            }
+        });
         holds(22, "2 ABOVE: the BODY that is FOUND for the CLASS that its own CLASS is below, of its own NAME", x -> {
             int f = x.face();
             int a = below(x, ANY);
@@ -308,10 +329,13 @@ final class HandleSentences extends Sentences {
             x.method(a, 9, TELLS_INT, 1);
             x.method(b, 9, TELLS_INT, 2);
             x.method(a, 5, ASKS, 4);
+            x.method(a, 6, ASKS, 9);
+            x.method(b, 6, ABOVE, 0);
             int h = ofMethods(x, a, 0);
             due("of the class itself", x.get(h, x.thing(a)), 1);
             int t = x.thing(b);
             due("of the class below, asked from above", x.get(h, t), 2);
+            due("of the class below, asked by a body that was asked ABOVE", x.get(ofMethods(x, b, 6), t), 2);
             lost(x, "none of that name", x.get(ofMethods(x, a, 5), t), LACKING);
             due("one began", x.told(4), 1);
         });
@@ -499,6 +523,7 @@ final class HandleSentences extends Sentences {
             int[] handles = {ofMethods(x, a, 0), ofMethods(x, a, 1), ofMethods(x, b, 2)};
             int[] due = {TWO, LACKING, DEEP};
             int t = x.thing(b);
+            readNone(x);
             for (int k = 0; k < 3; k++) {
                 lost(x, "a finding of reading", x.getAs(handles[k], t, TRUTH), due[k]);
                 lost(x, "NULL", x.getAs(handles[k], NONE, TRUTH), NULL);

@@ -11,6 +11,7 @@ final class MemberSentences extends Sentences {
         closed();
         found();
         foundOfFaces();
+        foundOfLastTypes();
         seen();
     }
 
@@ -371,7 +372,8 @@ final class MemberSentences extends Sentences {
             x.method(c + 2, 0, TELLS_INT, 0);
             refused(x, "two", x.found(c, 0), TWO);
         });
-        holds(11, "FOUND for a CLASS, of a NAME: the METHOD of that NAME of the first CLASS ABOVE it that has one", x -> {
+        holds(11, "FOUND for a CLASS, of a NAME: the METHOD of that NAME of the first CLASS ABOVE it that"
+            + " has one", x -> {
             int a = below(x, ANY);
             int b = below(x, a);
             int c = below(x, b);
@@ -476,6 +478,54 @@ final class MemberSentences extends Sentences {
         });
     }
 
+    /** Among 91 TYPES the last ones are found as the first ones are. */
+    private static void foundOfLastTypes() {
+        holds(11, "else that one's", x -> {
+            int first = x.face();
+            int c = below(x, ANY);
+            for (int n = 11; n < 97; n++) {
+                x.face();
+            }
+            int left = x.face();
+            int right = x.face();
+            int low = x.face();
+            due("the last", low, 99);
+            x.method(right, 0, TELLS_INT, 0);
+            x.under(c, right);
+            due("one", x.found(c, 0), 100 * right);
+            x.method(low, 0, TELLS_INT, 0);
+            due("the last is none of its faces yet", x.found(c, 0), 100 * right);
+            x.under(c, low);
+            refused(x, "two", x.found(c, 0), TWO);
+            x.under(low, right);
+            due("the last overrules one ahead", x.found(c, 0), 9900);
+            x.method(first, 0, TELLS_INT, 0);
+            x.under(c, first);
+            refused(x, "a first one and a last one", x.found(c, 0), TWO);
+            x.under(low, first);
+            due("the last overrules the first", x.found(c, 0), 9900);
+            x.method(left, 1, TELLS_INT, 0);
+            refused(x, "of another name", x.found(c, 1), LACKING);
+            x.under(c, left);
+            due("its own", x.found(c, 1), 100 * left);
+        });
+        holds(11, "those that are no FACE OF another such one", x -> {
+            for (int n = 9; n < 99; n++) {
+                x.face();
+            }
+            int c = below(x, ANY);
+            for (int f : new int[] {9, 70, 98}) {
+                x.under(c, f);
+                x.method(f, 0, TELLS_INT, 0);
+            }
+            refused(x, "three", x.found(c, 0), TWO);
+            x.under(9, 70);
+            refused(x, "two are left", x.found(c, 0), TWO);
+            x.under(9, 98);
+            due("the first overrules the last", x.found(c, 0), 900);
+        });
+    }
+
     private static void seen() {
         holds(12, "SEEN: likewise", x -> {
             int c = below(x, ANY);
@@ -510,7 +560,8 @@ final class MemberSentences extends Sentences {
                 refused(x, "ANY", x.seen(ANY, 0), LACKING);
             });
         });
-        holds(12, "SEEN from a CLASS, of a NAME: the FIELD of that NAME of the first CLASS ABOVE it that has one", x -> {
+        holds(12, "SEEN from a CLASS, of a NAME: the FIELD of that NAME of the first CLASS ABOVE it that has"
+            + " one", x -> {
             int a = below(x, ANY);
             int b = below(x, a);
             int c = below(x, b);

@@ -103,7 +103,8 @@ final class QuerySentences extends Sentences {
             });
             hits(x, "none came", x.run(0, 0, 60), 0);
         });
-        holds(32, "a HANDLE, an op (0 below, 1 at most, 2 alike, 3 unlike, 4 at least, 5 above), a number, a long", x -> {
+        holds(32, "a HANDLE, an op (0 below, 1 at most, 2 alike, 3 unlike, 4 at least, 5 above), a number, a"
+            + " long", x -> {
             with(x, LONG, Long.MIN_VALUE, Long.MAX_VALUE - 1, Long.MAX_VALUE);
             int[][] due = {{0}, {0, 1}, {1}, {0, 2}, {1, 2}, {2}};
             for (int op = BELOW; op <= OVER; op++) {
@@ -193,6 +194,7 @@ final class QuerySentences extends Sentences {
             due("the second", x.hit(1), 1);
             due("no third", x.hit(2), BAD);
             due("fourteen bodies", x.told(4), 14);
+            HandleSentences.readNone(x);
             refused(x, "at the first", x.run(0, 2, 60), DEEP);
             due("no hits ahead", x.told(5), 0);
             hits(x, "behind it", x.run(0, 3, 60), 3, 4);
@@ -495,6 +497,7 @@ final class QuerySentences extends Sentences {
             x.run(0, 0, 60);
             lost(x, "DEEP", x.total(ofMethods(x, a, 1)), DEEP);
             due("thirteen bodies", x.told(4), 13);
+            HandleSentences.readNone(x);
             lost(x, "LACKING", x.total(ofMethods(x, a, 2)), LACKING);
             lost(x, "CAST", x.total(ofField(x, b, 0)), CAST);
             due("the hits stay", x.told(5), 2);

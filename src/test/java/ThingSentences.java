@@ -80,7 +80,8 @@ final class ThingSentences extends Sentences {
     }
 
     private static void places() {
-        holds(15, "A THING of a CLASS (that is not OPEN) has a PLACE for each FIELD, not SHARED, of all CLASSES ABOVE it, hidden ones, too", x -> {
+        holds(15, "A THING of a CLASS (that is not OPEN) has a PLACE for each FIELD, not SHARED, of all"
+            + " CLASSES ABOVE it, hidden ones, too", x -> {
             int a = x.cls(ANY, true);
             int b = below(x, a);
             x.field(a, 0, INT, false);
@@ -179,7 +180,8 @@ final class ThingSentences extends Sentences {
     }
 
     private static void kind() {
-        holds(15, "Of a THING: what = 0, 1 BASE and DEPTH of it, ERASED, 2 how many items (of a CLASS's: PLACES)", x -> {
+        holds(15, "Of a THING: what = 0, 1 BASE and DEPTH of it, ERASED, 2 how many items (of a CLASS's:"
+            + " PLACES)", x -> {
             int c = withField(x, INT);
             int t = x.thing(c);
             int row = x.things(x.row(c), 7);
@@ -339,6 +341,27 @@ final class ThingSentences extends Sentences {
                 due("the last item", x.read(row, 11), NONE);
             }
         });
+        holds(17, "others a THING that IS their ERASED TYPE, or NONE (at first)", x -> {
+            int a = withField(x, ANY);
+            int b = below(x, a);
+            x.field(b, 0, INT, false);
+            x.field(b, 1, ANY, false);
+            int c = below(x, b);
+            x.field(c, 0, ANY, false);
+            x.field(c, 1, INT, false);
+            x.field(c, 2, ANY, true);
+            x.field(c, 3, ANY, false);
+            x.method(a, 0, TELLS_INT, 1);
+            x.method(b, 0, TELLS_INT, 1);
+            int t = x.thing(c);
+            due("its own, with methods above", x.get(ofField(x, c, 3), t), NONE);
+            due("above", x.get(ofField(x, a, 0), t), NONE);
+            due("between, a lane", x.get(ofField(x, b, 0), t), 0);
+            due("between", x.get(ofField(x, b, 1), t), NONE);
+            due("its own", x.get(ofField(x, c, 0), t), NONE);
+            due("its own, a lane", x.get(ofField(x, c, 1), t), 0);
+            due("a shared one", x.get(ofField(x, c, 2), t), NONE);
+        });
         holds(17, "VALUES are told by BITS, a long: of a truth 1, 0", x -> {
             keeps(x, TRUTH, 1, 1);
             keeps(x, TRUTH, 0, 0);
@@ -369,7 +392,8 @@ final class ThingSentences extends Sentences {
             keeps(x, DOUBLE, 1, 1);
         });
         holds(17, "(of what is no number 0x7fc00000, 0x7ff8000000000000, whatever bits came)", x -> {
-            for (long bits : new long[] {0x7f800001L, 0x7fffffffL, 0x7fc00001L, 0xff800001L, 0xffc00000L, -1, NO_FLOAT}) {
+            for (long bits : new long[] {0x7f800001L, 0x7fffffffL, 0x7fc00001L, 0xff800001L,
+                0xffc00000L, -1, NO_FLOAT}) {
                 keeps(x, FLOAT, bits, NO_FLOAT);
             }
             for (long bits : new long[] {ENDLESS_DOUBLE + 1, Long.MAX_VALUE, NO_DOUBLE + 1, 0xfff0000000000001L,
@@ -485,6 +509,29 @@ final class ThingSentences extends Sentences {
             int rows = x.things(x.row(ANY), 1);
             due("a row of it", x.write(rows, 0, row), 1);
             due("itself", x.write(rows, 0, rows), 1);
+        });
+        holds(18, "else the THING with that number, or NONE", x -> {
+            int c = below(x, ANY);
+            x.things(ANY, 0);
+            x.things(ANY, 0);
+            for (int lane = TRUTH; lane <= DOUBLE; lane++) {
+                x.field(c, lane, x.row(lane), lane % 2 == 0);
+            }
+            int t = x.thing(c);
+            for (int lane = TRUTH; lane <= DOUBLE; lane++) {
+                int row = x.things(lane, 1);
+                int rows = x.things(x.row(lane), 1);
+                int h = ofField(x, c, lane);
+                due("a row of a lane is a thing, no value", x.write(rows, 0, row), 1);
+                due("it", x.read(rows, 0), row);
+                due("as a place", x.set(h, t, row), 1);
+                due("it", x.get(h, t), row);
+                due("its lane", x.lane(), 8);
+                x.write(rows, 0, NONE);
+                x.set(h, t, NONE);
+                due("NONE", x.read(rows, 0), NONE);
+                due("NONE as a place", x.get(h, t), NONE);
+            }
         });
         holds(18, "(STORE: there is no such one", x -> {
             int row = x.things(ANY, 1);
@@ -631,6 +678,17 @@ final class ThingSentences extends Sentences {
                 due(v + " as a double", x.read(doubles, 0), bits((double) v));
                 x.writeAs(floats, 0, INT, v);
                 due((int) v + " as a float", x.read(floats, 0), bits((float) (int) v));
+            }
+        });
+        holds(20, "as the machine casts it", x -> {
+            int floats = x.things(FLOAT, 1);
+            int doubles = x.things(DOUBLE, 1);
+            for (int bit = 0; bit < 64; bit++) {
+                long v = 1L << bit;
+                x.writeAs(floats, 0, LONG, v);
+                due(v + " as a float", x.read(floats, 0), bits((float) v));
+                x.writeAs(doubles, 0, LONG, v - 1);
+                due(v - 1 + " as a double", x.read(doubles, 0), bits((double) (v - 1)));
             }
         });
         float[] some = {0f, -0f, 1f, -1.5f, Float.MIN_VALUE, -Float.MIN_VALUE, Float.MIN_NORMAL,

@@ -253,7 +253,8 @@ final class ToldSentences extends Sentences {
     }
 
     private static void status() {
-        holds(39, "Why the latest call but status(), lane(), filled(), hit(), failed(), trace(), told() was refused", x -> {
+        holds(39, "Why the latest call but status(), lane(), filled(), hit(), failed(), trace(), told() was"
+            + " refused", x -> {
             x.face();
             x.cls(9, false);
             due("told once", x.status(), BAD);

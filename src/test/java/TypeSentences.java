@@ -31,7 +31,8 @@ final class TypeSentences extends Sentences {
             }
             due("digest()", x.digest(), 17);
         });
-        holds(1, "An object is used for at most 512 calls after it has been made; what later calls answer is free.", x -> {
+        holds(1, "An object is used for at most 512 calls after it has been made; what later calls answer"
+            + " is free.", x -> {
             for (int n = 0; n < 510; n++) {
                 due("call " + n, x.is(n % 9, n % 9), 1);
             }
@@ -59,7 +60,8 @@ final class TypeSentences extends Sentences {
     }
 
     private static void refusals() {
-        holds(2, "Calls answer, the first of these that fits: BAD -1 (a number is not as told, there is no such TYPE, THING and so on)", x -> {
+        holds(2, "Calls answer, the first of these that fits: BAD -1 (a number is not as told, there is no"
+            + " such TYPE, THING and so on)", x -> {
             int c = below(x, ANY);
             makeAllTypes(x);
             changesNothing(x, () -> {
@@ -184,7 +186,8 @@ final class TypeSentences extends Sentences {
             }
             refused(x, "ANY", x.under(ANY, 9), BAD);
         });
-        holds(4, "FACES OF a CLASS or FACE: those told of it, in order, each with the FACES OF it right behind it", x -> {
+        holds(4, "FACES OF a CLASS or FACE: those told of it, in order, each with the FACES OF it right"
+            + " behind it", x -> {
             int top = x.face();
             int mid = x.face();
             int low = x.face();
