@@ -1,6 +1,9 @@
 import java.lang.reflect.Method;
+import java.util.ArrayList;
 import java.util.HashMap;
+import java.util.List;
 import java.util.Map;
+import java.util.TreeSet;
 
 /** Makes a call of QueryHandles by its name, with numbers (0, 1 for a boolean). */
 final class Calls {
@@ -18,6 +21,11 @@ final class Calls {
 
     static int count() {
         return BY_NAME.size();
+    }
+
+    /** All calls of the face, in an order that is always the same. */
+    static List<String> names() {
+        return new ArrayList<>(new TreeSet<>(BY_NAME.keySet()));
     }
 
     static long make(QueryHandles x, String call, long[] p) {

@@ -379,7 +379,11 @@ final class HandleSentences extends Sentences {
 
     /** As many BODIES, each of a CLASS and asking the one ABOVE; the last tells a number or asks for more. */
     static int chain(QueryHandles x, int bodies, int lastBody) {
-        int c = ANY;
+        return chainBelow(x, ANY, bodies, lastBody);
+    }
+
+    private static int chainBelow(QueryHandles x, int top, int bodies, int lastBody) {
+        int c = top;
         for (int n = 0; n < bodies; n++) {
             c = below(x, c);
             x.method(c, 0, n == 0 ? lastBody : ABOVE, 0);
@@ -405,6 +409,29 @@ final class HandleSentences extends Sentences {
             lost(x, "a thirteenth that is not found does not begin", x.get(ofMethods(x, e, 0), x.thing(e)), LACKING);
             int f = chain(x, 1, ASKS_AND_ONE);
             lost(x, "without an end, and one more", x.get(ofMethods(x, f, 0), x.thing(f)), DEEP);
+        });
+        holds(22, "BODIES within one another are 12 at most (DEEP: one more would begin)", x -> {
+            int two = below(x, ANY);
+            for (int n = 0; n < 2; n++) {
+                int f = x.face();
+                x.under(two, f);
+                x.method(f, 0, TELLS_INT, 0);
+            }
+            int none = x.cls(ANY, true);
+            x.method(none, 0, 0, 0);
+            int[] tops = {two, none};
+            int[] whys = {TWO, LACKING};
+            for (int k = 0; k < 2; k++) {
+                int twelve = chainBelow(x, tops[k], 12, ABOVE);
+                int h = ofMethods(x, twelve, 0);
+                int t = x.thing(twelve);
+                lost(x, "where none is found as a thirteenth, none would begin", x.get(h, t), whys[k]);
+                due("twelve began", x.told(4), 12);
+                lost(x, "likewise as a long", x.getAs(h, t, LONG), whys[k]);
+                int thirteen = chainBelow(x, twelve, 1, ABOVE);
+                lost(x, "where one is, it would", x.get(h, x.thing(thirteen)), DEEP);
+                due("twelve began", x.told(4), 12);
+            }
         });
         holds(22, "-18 DEEP", x -> {
             int c = chain(x, 1, ASKS);

@@ -6,7 +6,6 @@ import java.lang.reflect.Modifier;
 import java.nio.file.Files;
 import java.nio.file.Path;
 import java.util.HashSet;
-import java.util.List;
 import java.util.Set;
 import java.util.TreeSet;
 import java.util.regex.Matcher;
@@ -14,17 +13,6 @@ import java.util.regex.Pattern;
 
 /** The rules of LANGUAGE.md that can be looked up in the source, in the class and in what it makes. */
 public final class LanguageTest {
-    private static final String FACE = "int cls(int,boolean); int face(); int under(int,int);"
-        + " int variable(int,int); int row(int); int erased(int,int); int is(int,int);"
-        + " int field(int,int,int,boolean); int method(int,int,int,int); int found(int,int); int seen(int,int);"
-        + " int thing(int); int things(int,int); int kind(int,int); int isA(int,int); long read(int,int);"
-        + " int write(int,int,long); long readAs(int,int,int); int writeAs(int,int,int,long);"
-        + " int handle(int,int,boolean); long get(int,int); int lane(); long getAs(int,int,int);"
-        + " int set(int,int,long); int column(int,int,int); int fill(int,int); int filled();"
-        + " long cell(int,int); long sum(int); int query(); int test(int,int,int,long,boolean);"
-        + " int run(int,int,int); int hit(int); int failed(); long total(int); int trace(int);"
-        + " int told(int); int status(); long digest()";
-
     private static void source() throws IOException {
         String text = Files.readString(Path.of("src/main/java/QueryHandles.java"));
         Check.that("rule 4: signs are 1 to 127", text.chars().allMatch(c -> c > 0 && c < 128));
@@ -64,40 +52,20 @@ public final class LanguageTest {
         }
     }
 
-    private static void face() {
-        Check.that("rule 1: public and final",
-            Modifier.isPublic(QueryHandles.class.getModifiers()) && Modifier.isFinal(QueryHandles.class.getModifiers()));
+    /** The face itself is held against the document in FaceTest. */
+    private static void names() {
         Set<String> names = new HashSet<>();
-        Set<String> face = new TreeSet<>();
         for (Method m : QueryHandles.class.getDeclaredMethods()) {
             if (Modifier.isPublic(m.getModifiers())) {
                 names.add(m.getName());
-                StringBuilder s = new StringBuilder();
-                for (Class<?> p : m.getParameterTypes()) {
-                    s.append(s.length() > 0 ? "," : "").append(p.getName());
-                }
-                face.add(m.getReturnType().getName() + " " + m.getName() + "(" + s + ")");
             } else {
                 Check.that("rule 1: private " + m, Modifier.isPrivate(m.getModifiers()));
             }
         }
-        Set<String> due = new TreeSet<>(List.of(FACE.split("; ")));
-        Check.that("the face: " + face, face.equals(due));
-        Check.due("39 calls", face.size(), 39);
-        Check.due("one constructor", QueryHandles.class.getDeclaredConstructors().length, 1);
-        Check.due("without parameters", QueryHandles.class.getDeclaredConstructors()[0].getParameterCount(), 0);
-        Check.due("NONE", QueryHandles.NONE, -1);
-        Check.due("BAD", QueryHandles.BAD, -1);
-        Check.due("FULL", QueryHandles.FULL, -2);
-        Check.due("NO", QueryHandles.NO, -3);
-        Check.due("LOST", QueryHandles.LOST, Long.MIN_VALUE);
-        Set<String> open = new TreeSet<>();
-        for (Field f : QueryHandles.class.getDeclaredFields()) {
-            if (!Modifier.isPrivate(f.getModifiers())) {
-                open.add(f.getName());
-            }
+        for (Method m : QueryHandles.class.getDeclaredMethods()) {
+            Check.that("rule 1: name of " + m, Modifier.isPublic(m.getModifiers()) || !names.contains(m.getName()));
+            Check.that("rule 11: parameters of " + m, m.getParameterCount() <= 7);
         }
-        Check.that("constants " + open, open.equals(Set.of("NONE", "BAD", "FULL", "NO", "LOST")));
         classes(names);
     }
 
@@ -174,7 +142,7 @@ public final class LanguageTest {
 
     public static void main(String[] args) throws IOException {
         source();
-        face();
+        names();
         room();
         Check.end("LanguageTest");
     }

@@ -36,6 +36,8 @@ public final class ModelTest {
     /** Each run favours calls and TYPES of its own, so that limits and deep nests are come to. */
     private final int[] favour = new int[CALLS.length];
     private final int lastType;
+    /** So many FACES are made first in some runs, lest all that matters have low numbers. */
+    private final int filler;
     private final int firstPart;
     private final int secondPart;
     private final int thirdPart;
@@ -47,8 +49,9 @@ public final class ModelTest {
         dense = seed % 2 == 0;
         names = dense ? 3 + chance.nextInt(4) : chance.nextBoolean() ? 1 + chance.nextInt(4) : 7 + chance.nextInt(4);
         wild = chance.nextInt(4) == 0 ? 8 : 60;
+        filler = seed % 4 == 2 ? 40 + chance.nextInt(44) : 0;
         int reach = dense ? 2 : chance.nextInt(3);
-        lastType = reach == 0 ? 100 : reach == 1 ? 11 + chance.nextInt(3) : 14 + chance.nextInt(16);
+        lastType = filler + (reach == 0 ? 100 : reach == 1 ? 11 + chance.nextInt(3) : 14 + chance.nextInt(16));
         firstPart = 2 + chance.nextInt(16);
         secondPart = 20 + chance.nextInt(200);
         thirdPart = secondPart + chance.nextInt(200);
@@ -73,7 +76,14 @@ public final class ModelTest {
     }
 
     private int typeBelow() {
-        return below(3) == 0 ? below(model.types.size()) : below(Math.min(lastType, model.types.size()));
+        int size = model.types.size();
+        return below(3) == 0 ? below(size) : filler + below(Math.min(lastType, size) - filler);
+    }
+
+    /** Whether a run that has TYPES of its own favours this one. */
+    private boolean isNear(int type) {
+        boolean isFiller = type > 8 && type < 9 + filler;
+        return isFiller ? below(80) == 0 : type < lastType || below(4) == 0;
     }
 
     private long type() {
@@ -83,8 +93,7 @@ public final class ModelTest {
     private long typeOf(String... sorts) {
         List<Integer> fine = new ArrayList<>();
         for (Model.T t : model.types) {
-            boolean near = t.number < lastType || below(4) == 0;
-            if (near && List.of(sorts).contains(t.sort) && (t.number != 8 || below(6) == 0)) {
+            if (isNear(t.number) && List.of(sorts).contains(t.sort) && (t.number != 8 || below(6) == 0)) {
                 fine.add(t.number);
             }
         }
@@ -243,7 +252,7 @@ public final class ModelTest {
     private boolean run(long seed, Map<String, Integer> seen) {
         StringBuilder story = new StringBuilder();
         for (int n = 0; n < 512; n++) {
-            String call = dense ? planned(n) : pickedBy(n);
+            String call = n < filler ? "face" : dense ? planned(n - filler) : pickedBy(n);
             long[] p = numbers(call);
             long want = model.call(call, p);
             long got = Calls.make(x, call, p);
@@ -262,8 +271,8 @@ public final class ModelTest {
         return true;
     }
 
-    /** Answers that the runs must have come to, lest chance leave a promise untried. */
-    private static final String[] MUST = {
+    /** Answers that the runs must have come to, lest chance leave a promise untried; all refusals are here. */
+    static final String[] MUST = {
         "cls -1", "cls -2", "cls told", "face -2", "under -1", "under -2", "under -3", "under told",
         "variable -1", "variable -2", "row -1", "row -2", "erased -1", "is -1", "field -1", "field -2",
         "field -3", "method -1", "method -2", "method -3", "found -1", "found -17", "found -19",
@@ -289,6 +298,9 @@ public final class ModelTest {
         }
         for (String kind : MUST) {
             Check.that("the runs came to: " + kind, seen.containsKey(kind));
+        }
+        for (String kind : seen.keySet()) {
+            Check.that("the runs may come to: " + kind, kind.endsWith(" told") || List.of(MUST).contains(kind));
         }
         if (args.length > 0) {
             System.out.println(new TreeMap<>(seen));

@@ -272,6 +272,7 @@ final class ThingSentences extends Sentences {
                     lost(x, "get", x.get(h, none), BAD);
                     lost(x, "get of a shared field", x.get(shared, none), BAD);
                     lost(x, "getAs", x.getAs(h, none, INT), BAD);
+                    lost(x, "getAs of a shared field", x.getAs(shared, none, INT), BAD);
                     refused(x, "set", x.set(h, none, 7), BAD);
                     refused(x, "set of a shared field", x.set(shared, none, 7), BAD);
                 }
