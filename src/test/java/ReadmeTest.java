@@ -1,9 +1,8 @@
 import java.io.IOException;
-import java.net.URL;
-import java.net.URLClassLoader;
 import java.nio.file.Files;
 import java.nio.file.Path;
 import java.util.ArrayList;
+import java.util.HashMap;
 import java.util.List;
 import java.util.Map;
 import java.util.Set;
@@ -12,13 +11,12 @@ import java.util.TreeSet;
 import java.util.regex.Matcher;
 import java.util.regex.Pattern;
 import java.util.stream.Stream;
-import javax.tools.ToolProvider;
 
 /** README.md: its programs tell what it says, and its tables have all calls, groups and refusals. */
 public final class ReadmeTest {
     private static final String NEW_OBJECT = "QueryHandles x = new QueryHandles();";
     private static final Pattern LINE =
-        Pattern.compile("(?:int (\\w+) = )?(x\\.\\w+\\(.*?\\)); *// (-?\\d+|LOST)(:.*|,.*)?");
+        Pattern.compile("(?:int (\\w+) = )?x\\.(\\w+)\\(([^()]*)\\); *// (-?\\d+|LOST)(:.*)?");
     private static final Pattern ROW = Pattern.compile("(?m)^\\| `(\\w+ (\\w+)\\(.*\\))` \\| [^|]* \\| ([A-Z ]*)\\|$");
 
     private final String readme;
@@ -31,60 +29,48 @@ public final class ReadmeTest {
         document = Files.readString(Path.of("../shared/DOC.md"));
     }
 
-    private void programs() throws IOException, ReflectiveOperationException {
+    private void programs() {
         Matcher program = Pattern.compile("(?s)```java\n(.*?)```").matcher(readme);
         int n = 0;
         Set<String> tried = new TreeSet<>();
         while (program.find()) {
-            run("Readme" + n, program.group(1).split("\n"), tried);
             n++;
+            run("program " + n, program.group(1).split("\n"), tried);
         }
         Check.that("there are programs", n >= 3);
         Check.that("they make calls: " + tried, tried.size() >= 20);
     }
 
-    private static void run(String name, String[] lines, Set<String> tried)
-        throws IOException, ReflectiveOperationException {
-        Check.that(name + " makes an object first", lines[0].equals(NEW_OBJECT));
-        List<String> asked = new ArrayList<>();
-        List<Long> due = new ArrayList<>();
-        StringBuilder body = new StringBuilder(NEW_OBJECT);
-        for (String line : lines) {
-            Matcher m = LINE.matcher(line);
-            if (!line.equals(NEW_OBJECT)) {
-                Check.that("a call with its answer: " + line, m.matches());
-            }
+    private static void run(String program, String[] lines, Set<String> tried) {
+        Check.that(program + " makes an object first", lines[0].equals(NEW_OBJECT));
+        QueryHandles x = new QueryHandles();
+        Map<String, Long> known = new HashMap<>(Map.of("true", 1L, "false", 0L));
+        for (int i = 1; i < lines.length; i++) {
+            Matcher m = LINE.matcher(lines[i]);
+            Check.that(program + ", a call with its answer: " + lines[i], m.matches());
             if (m.matches()) {
-                String kept = m.group(1) == null ? "" : "int " + m.group(1) + " = " + m.group(2) + ";";
-                String told = m.group(1) == null ? m.group(2) : m.group(1);
-                body.append(kept).append("a[").append(due.size()).append("] = ").append(told).append(";\n");
-                due.add(m.group(3).equals("LOST") ? QueryHandles.LOST : Long.parseLong(m.group(3)));
-                asked.add(m.group(2));
-                tried.add(m.group(2).replaceAll("\\(.*", ""));
+                long got = Calls.make(x, m.group(2), numbersOf(m.group(3), known));
+                Check.due(program + ", " + lines[i], got, m.group(4).equals("LOST") ? QueryHandles.LOST
+                    : Long.parseLong(m.group(4)));
+                tried.add(m.group(2));
+                if (m.group(1) != null) {
+                    Check.that("it is new: " + m.group(1), known.put(m.group(1), got) == null);
+                    Check.that("it is an int: " + m.group(2), !Model.isLong(m.group(2)));
+                }
             }
-        }
-        long[] got = answers(name, body.toString(), due.size());
-        for (int i = 0; i < got.length; i++) {
-            Check.due(name + ": " + asked.get(i), got[i], due.get(i));
         }
     }
 
-    private static long[] answers(String name, String body, int n) throws IOException, ReflectiveOperationException {
-        Path dir = Files.createTempDirectory("readme");
-        Path file = dir.resolve(name + ".java");
-        Files.writeString(file, "public final class " + name + " { public static long[] answers() {\n"
-            + "long[] a = new long[" + n + "];\n" + body + "return a; } }");
-        int code = ToolProvider.getSystemJavaCompiler().run(null, null, null,
-            "-cp", System.getProperty("java.class.path"), "-d", dir.toString(), file.toString());
-        Check.due(name + " compiles", code, 0);
-        URL[] at = {dir.toUri().toURL()};
-        try (URLClassLoader loader = new URLClassLoader(at, ReadmeTest.class.getClassLoader())) {
-            return (long[]) loader.loadClass(name).getMethod("answers").invoke(null);
-        } finally {
-            Files.delete(file);
-            Files.deleteIfExists(dir.resolve(name + ".class"));
-            Files.delete(dir);
+    /** The numbers of a call, written as numbers or by names that lines ahead gave. */
+    private static long[] numbersOf(String written, Map<String, Long> known) {
+        String[] words = written.isEmpty() ? new String[0] : written.split(", ");
+        long[] numbers = new long[words.length];
+        for (int i = 0; i < words.length; i++) {
+            boolean isNumber = words[i].matches("-?\\d+");
+            Check.that("it is known: " + words[i], isNumber || known.containsKey(words[i]));
+            numbers[i] = isNumber ? Long.parseLong(words[i]) : known.getOrDefault(words[i], 0L);
         }
+        return numbers;
     }
 
     /** The calls stand in the document's groups and order, as it declares them. */
@@ -153,7 +139,7 @@ public final class ReadmeTest {
         Check.that("how tests are run", readme.contains("\n    bash .ci/run\n"));
     }
 
-    public static void main(String[] args) throws IOException, ReflectiveOperationException {
+    public static void main(String[] args) throws IOException {
         ReadmeTest test = new ReadmeTest();
         test.programs();
         test.groups();
